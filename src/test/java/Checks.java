@@ -41,7 +41,9 @@ final class Checks {
             for (int k = 0; k < n; k++) {
                 eight |= (text.charAt(i + k) & 255L) << (8 * k);
             }
-            x.feed(eight, n);
+            if (x.feed(eight, n) < 0) {
+                throw new IllegalArgumentException("too long for the tape: " + text);
+            }
         }
     }
 
