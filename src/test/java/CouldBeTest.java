@@ -138,6 +138,10 @@ public final class CouldBeTest {
         C.due("sum 1000", x.paid(0, 1, 1000), EveryHand.BAD);
         C.due("sum -1", x.paid(0, 1, -1), EveryHand.BAD);
         C.due("the same", x.paid(1, 1, 0), EveryHand.BAD);
+        x.clean(5);
+        C.due("75: five, without what is worth 0", x.paid(0, 1, 75), 1 + 2 + 4 + 16 + 32);
+        x.stamp(3, 5, 3);
+        C.due("77: all six", x.paid(0, 1, 77), 63);
         C.due("person 3", x.paid(3, 0, 0), EveryHand.BAD);
         C.due("to 3", x.paid(0, 3, 0), EveryHand.BAD);
         C.due("person -1", x.paid(-1, 0, 0), EveryHand.BAD);

@@ -89,6 +89,12 @@ public final class TextTest {
         fault("person " + (char) 179 + ";", 7);
         fault("person 3;;", 9);
         fault("penny 1 of 0;", 0);
+        fault("personz 1;", 0);
+        fault("persona 1;", 0);
+        fault("person{1;", 6);
+        fault("person`1;", 6);
+        fault("person:1;", 6);
+        fault("person/1;", 6);
         fault("know 0 1;", 5);
         fault(P + "know 0 1;", 16);
         fault(P + P + "know", 22);
