@@ -127,6 +127,15 @@ public final class EdgeCouldBeTest {
         C.due("far below 0", x.row(5, LOW), BAD);
         C.due("both wrong", x.row(6, -1), BAD);
         C.due("no such COIN: BAD goes ahead of NONE", x.row(6, 6), BAD);
+        C.part("18 of one COIN behind another one's");
+        EveryHand two = Checks.of(Towns.people(3) + "know 0 2;worn 5 of 0;coin 5 of 0;");
+        for (int round = 0; round < 2; round++) {
+            C.due("worn, the first", two.row(0, 0), 1);
+            C.due("coin, the first", two.row(1, 0), 2);
+            C.due("worn, the second", two.row(0, 1), 2);
+            C.due("coin, no second", two.row(1, 1), NONE);
+        }
+        C.part("18 NONE: it MAY be given to nobody");
         EveryHand stuck = Checks.of(Towns.people(2) + "coin 5 of 0;worn 5 of 0 had 1;");
         C.due("stuck", stuck.row(0, 0), NONE);
         C.due("stuck, below 0: BAD goes ahead of NONE", stuck.row(0, -1), BAD);
@@ -294,6 +303,11 @@ public final class EdgeCouldBeTest {
         EveryHand y = Checks.of(Towns.people(4) + "worn 5 of 0 had 1;worn 5 of 0;");
         C.due("the COIN with more left", y.best(0, 0), 1);
         C.due("to whom", y.best(0, 1), 1);
+        y.melt(0);
+        y.coin(0, 5, 0);
+        y.know(0, 2, true);
+        C.due("COINS with less left behind it", y.best(0, 0), 0);
+        C.due("left", y.best(0, 2), 2);
         EveryHand z = Checks.of(Towns.people(4) + "worn 5 of 0 had 1;worn 5 of 0 had 3;");
         C.due("the least COIN", z.best(0, 0), 0);
         C.due("to 2, though the other could go to 1", z.best(0, 1), 2);
@@ -472,6 +486,9 @@ public final class EdgeCouldBeTest {
         most.stamp(4, 4, 99);
         most.stamp(5, 4, 99);
         C.due("the greatest of all", most.heir(0, 1), 1206);
+        EveryHand first = Checks.of(Towns.people(7) + "worn 5 of 6;worn 9 of 6 had 1,2,3,4,5;");
+        C.due("the first PERSON, others get less", first.heir(6, 0), 0);
+        C.due("how much", first.heir(6, 1), 12);
         EveryHand last = Checks.of(Towns.people(7) + "worn 5 of 0;worn 9 of 0 had 1,2,3,4,5;");
         C.due("the last PERSON", last.heir(0, 0), 6);
     }

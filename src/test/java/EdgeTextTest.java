@@ -233,7 +233,7 @@ public final class EdgeTextTest {
         taken(TWO + "coin 1of0had1;", 2);
     }
 
-    /** Every byte but a blank is a fault where a statement ends, where a number must come and where a name must come. */
+    /** Each byte behind a statement, behind a NAME and behind a NUMBER: it goes on with these, parts them, or can't stand there. */
     private static void bytes() {
         C.part("3 other bytes");
         for (int b = 0; b < 256; b++) {
@@ -249,6 +249,13 @@ public final class EdgeTextTest {
                 taken("person" + sign + "1;", 1);
             } else {
                 fault("person" + sign + "1;", letter ? 0 : 6);
+            }
+            if (b == ' ') {
+                taken("person 1" + sign + ";", 1);
+            } else if (b == ';') {
+                taken("person 1" + sign, 1);
+            } else {
+                fault("person 1" + sign + ";", b >= '0' && b <= '9' ? 7 : 8);
             }
         }
     }
