@@ -296,6 +296,12 @@ public final class EdgeGiftsTest {
         C.due("COINS, but nobody to give them to", stuck.lots(20), 0);
         C.due("z", stuck.seed(0), 1);
         C.due("nobody", new EveryHand().lots(20), 0);
+        EveryHand gone = Checks.of(Towns.people(3) + "coin 9 of 0;worn 9 of 0;");
+        gone.melt(1);
+        C.due("a COIN that is gone isn't given", gone.lots(20), 0);
+        C.due("z", gone.seed(0), 1);
+        gone.melt(0);
+        C.due("nor the last one", gone.lots(20), 0);
         EveryHand exact = Checks.of(Towns.people(3) + "worn 5 of 0;");
         C.due("just as many as there are", exact.lots(2), 2);
     }
