@@ -24,6 +24,7 @@ public final class FaceTest {
         constants();
         nested();
         words();
+        madeWithTheObject();
         noCallThrows();
         C.end();
     }
@@ -120,6 +121,18 @@ public final class FaceTest {
             String bounds = Character.isLetter(word.charAt(0)) || word.charAt(0) == '\\' ? "\\b" : "";
             if (Pattern.compile(bounds + word + bounds).matcher(source).find()) {
                 C.wrong("the source has " + word);
+            }
+        }
+    }
+
+    /** Rule 12, and what README.md says: fields alone are made, so a call makes nothing that would fill the room of a run. */
+    private static void madeWithTheObject() throws IOException {
+        C.part("rule 12");
+        Pattern field = Pattern.compile("^ {4,8}(private |final |static )*[A-Z]?\\w+(\\[\\])* \\w+ = new [^;]*;$");
+        for (String line : Files.readAllLines(Path.of("src/main/java/EveryHand.java"))) {
+            boolean makes = Pattern.compile("\\bnew\\b|\\.clone\\(|copyOf").matcher(line).find();
+            if (makes && !line.trim().startsWith("/*") && !field.matcher(line).matches()) {
+                C.wrong("made by a call: " + line.trim());
             }
         }
     }

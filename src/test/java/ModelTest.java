@@ -1,11 +1,31 @@
+import java.lang.reflect.InvocationTargetException;
+import java.lang.reflect.Method;
 import java.util.ArrayList;
 import java.util.List;
 import java.util.Random;
 
-/** Runs of calls drawn from fixed seeds, each answer held against the model's; wrong arguments and broken texts among them. */
+/**
+ * Runs of 512 calls, as many as the document promises of an object, drawn from fixed seeds; each answer is held against the
+ * model's. Wrong arguments and broken texts are among them, and each call of the face is the 512th of some of them.
+ */
 public final class ModelTest {
-    /** The document promises nothing of an object's 513th call; a text told takes 28 calls at most. */
-    private static final int RUNS = 700, CALLS = 512 - 28;
+    private static final int CALLS = 512, RUNS_EACH = 25;
+    /** A text of 200 bytes and more, that is no longer taken then, and town(). */
+    private static final int TOLD = 28;
+
+    /** How often, which call, with what: from-to, or a sort of argument that argument() knows. */
+    private static final String[] FACE = {
+        "1 feed eight 1-8", "1 town", "40 person 0-9", "15 personOf P 0-4", "20 rank P 0-9", "60 know P P is", "60 coin 0-5 A P",
+        "15 coinOf C 0-5", "20 stamp C 0-5 A", "20 clean C",
+        "20 may C P", "30 give C P", "10 lot C", "10 lots N", "10 melt C",
+        "15 left C", "30 row C 0-6", "15 through C", "15 ways C", "15 last C", "15 stuck", "15 best P 0-2", "30 paid P P sum",
+        "15 friend C", "15 heir P 0-1", "15 least", "12 all 0-3", "4 seed int",
+        "20 prove C", "26 rowOf 0-5 0-2", "13 alterRow 0-5 0-2 V", "13 judge C", "12 ranks S I P 0-4",
+        "24 sheet S sort I", "24 put S I int", "12 item S sort I", "24 shelf S what C", "12 taken S as", "24 act S 0-3 int",
+        "12 trace 0-11", "12 many 0-4",
+        "8 keep", "8 again"
+    };
+    private static final int[] FAR = {Integer.MIN_VALUE, Integer.MAX_VALUE, -1, 32, 33, 64, -32, 1000};
 
     private final Random random;
     private final EveryHand hand = new EveryHand();
@@ -17,13 +37,14 @@ public final class ModelTest {
         random = new Random(seed);
     }
 
-    public static void main(String[] args) {
+    public static void main(String[] args) throws ReflectiveOperationException {
         int wrong = 0;
-        for (int run = 0; run < RUNS && wrong < 3; run++) {
+        for (int run = 0; run < FACE.length * RUNS_EACH && wrong < 3; run++) {
             ModelTest test = new ModelTest(run);
-            if (!test.run()) {
+            test.run(FACE[run % FACE.length]);
+            if (test.wrong) {
                 wrong++;
-                System.out.println("run " + run + ": " + String.join("; ", test.calls));
+                System.out.println("run " + run + ": " + test.latest());
             }
         }
         if (wrong != 0) {
@@ -31,15 +52,101 @@ public final class ModelTest {
         }
     }
 
-    private boolean run() {
+    private void run(String last) throws ReflectiveOperationException {
         // Some runs begin with a full town, as single calls seldom fill one.
         if (random.nextInt(3) > 0) {
-            tell(text(4 + random.nextInt(4), 6), false);
+            tell(text(4 + random.nextInt(4), 6));
         }
-        while (calls.size() < CALLS && !wrong) {
-            call();
+        while (calls.size() < CALLS - 3 * TOLD && !wrong) {
+            step(true);
         }
-        return !wrong;
+        if (random.nextBoolean()) {
+            tell(text(4 + random.nextInt(4), 6));
+        }
+        if (last.endsWith(" town") || last.contains(" feed ")) {
+            feed(maybeBroken(text(1 + random.nextInt(7), 6)));
+        }
+        while (calls.size() < CALLS - 1 && !wrong) {
+            step(false);
+        }
+        if (!wrong) {
+            call(last);
+        }
+        if (!wrong && calls.size() != CALLS) {
+            due("how many calls", calls.size(), CALLS);
+        }
+    }
+
+    /** One call, or a few that go together; alone, if a text can't be told any more. */
+    private void step(boolean texts) throws ReflectiveOperationException {
+        if (texts && random.nextInt(40) == 0) {
+            tell(random.nextInt(3) > 0 ? maybeBroken(text(random.nextInt(9), random.nextInt(8))) : "");
+            return;
+        }
+        String drawn = draw();
+        while (!texts && (drawn.endsWith(" town") || drawn.contains(" feed "))) {
+            drawn = draw();
+        }
+        call(drawn);
+        // ROWS and THE TRACE are worth most at once.
+        if (texts && drawn.contains(" prove ") && random.nextBoolean()) {
+            call("1 judge C");
+        }
+        if (texts && drawn.contains(" act ") && random.nextBoolean()) {
+            call("1 trace 0-11");
+        }
+    }
+
+    private static String draw(int at) {
+        int place = at;
+        for (String line : FACE) {
+            place -= weight(line);
+            if (place < 0) {
+                return line;
+            }
+        }
+        return FACE[0];
+    }
+
+    private String draw() {
+        int sum = 0;
+        for (String line : FACE) {
+            sum += weight(line);
+        }
+        return draw(random.nextInt(sum));
+    }
+
+    private static int weight(String line) {
+        return Integer.parseInt(line.substring(0, line.indexOf(' ')));
+    }
+
+    private void call(String line) throws ReflectiveOperationException {
+        String[] words = line.split(" ");
+        Object[] with = new Object[words.length - 2];
+        Class<?>[] types = new Class<?>[with.length];
+        for (int i = 0; i < with.length; i++) {
+            with[i] = argument(words[i + 2]);
+            types[i] = with[i] instanceof Long ? long.class : with[i] instanceof Boolean ? boolean.class : int.class;
+        }
+        make(words[1], types, with);
+    }
+
+    private void make(String name, Class<?>[] types, Object... with) throws ReflectiveOperationException {
+        String call = name + java.util.Arrays.toString(with).replace('[', '(').replace(']', ')');
+        Method ofModel = Model.class.getDeclaredMethod(name, types);
+        try {
+            int got = (int) EveryHand.class.getMethod(name, types).invoke(hand, with);
+            due(call, got, (int) ofModel.invoke(model, with));
+        } catch (InvocationTargetException thrown) {
+            wrong = true;
+            calls.add(call + " threw " + thrown.getCause());
+        }
+    }
+
+    /** The seed brings the others back. */
+    private String latest() {
+        int from = Math.max(0, calls.size() - 30);
+        return ".. " + from + " calls more ..; " + String.join("; ", calls.subList(from, calls.size()));
     }
 
     private void due(String call, int got, int want) {
@@ -50,12 +157,40 @@ public final class ModelTest {
         }
     }
 
+    private Object argument(String sort) {
+        switch (sort) {
+            case "eight": return random.nextLong();
+            case "is": return random.nextInt(4) > 0;
+            case "P": return near(0, Math.max(0, model.many(0) - 1));
+            case "C": return near(0, Math.max(0, model.many(1) - 1));
+            case "A": return random.nextBoolean() ? near(1, 99) : near(1, 6);
+            case "N": return random.nextBoolean() ? near(0, 3) : near(0, 20);
+            case "S": return near(0, 3);
+            case "I": return random.nextInt(4) == 0 ? near(0, 40) : near(0, 6);
+            case "V": return random.nextInt(8) == 0 ? number() : near(0, 6);
+            case "sum": return random.nextInt(20) == 0 ? near(0, 999) : random.nextBoolean() ? near(0, 60) : worthOfSome();
+            case "sort": return random.nextBoolean() ? 2 : near(-1, 3);
+            case "what": return random.nextBoolean() ? 0 : near(0, 2);
+            case "as": return random.nextBoolean() ? near(0, 5) : near(10, 13);
+            case "int": return number();
+            default: return near(Integer.parseInt(sort.substring(0, 1)), Integer.parseInt(sort.substring(2)));
+        }
+    }
+
+    /** So that it can be paid now and then. */
+    private int worthOfSome() {
+        int sum = 0;
+        for (int c = 0; c < model.many(1); c++) {
+            sum += random.nextInt(3) == 0 ? model.coinOf(c, 2) : 0;
+        }
+        return sum;
+    }
+
     /** Mostly from least to most, at times just outside, seldom far off. */
     private int near(int least, int most) {
         int draw = random.nextInt(60);
         if (draw == 0) {
-            int[] far = {Integer.MIN_VALUE, Integer.MAX_VALUE, -1, 32, 33, 64, -32, 1000};
-            return far[random.nextInt(far.length)];
+            return FAR[random.nextInt(FAR.length)];
         }
         if (draw == 1) {
             return least - 1;
@@ -66,209 +201,27 @@ public final class ModelTest {
         return least + random.nextInt(Math.max(1, most - least + 1));
     }
 
-    private int person() {
-        return near(0, Math.max(0, model.many(0) - 1));
-    }
-
-    private int coin() {
-        return near(0, Math.max(0, model.many(1) - 1));
-    }
-
     private int number() {
         return random.nextBoolean() ? random.nextInt() : random.nextInt(41) - 20;
     }
 
-    private void call() {
-        int draw = random.nextInt(100);
-        if (draw < 30) {
-            build();
-        } else if (draw < 40) {
-            gift();
-        } else if (draw < 70) {
-            ask();
-        } else if (draw < 80) {
-            row();
-        } else if (draw < 98) {
-            host();
-        } else {
-            kept();
+    private void tell(String text) throws ReflectiveOperationException {
+        feed(text);
+        if (random.nextInt(10) == 0) {
+            call("1 feed eight 1-8");
         }
+        call("1 town");
     }
 
-    private void build() {
-        switch (random.nextInt(12)) {
-            case 0 -> tell(random.nextInt(3) > 0 ? text(random.nextInt(9), random.nextInt(8)) : "", true);
-            case 1, 2 -> {
-                int rank = near(0, 9);
-                due("person(" + rank + ")", hand.person(rank), model.person(rank));
-            }
-            case 3 -> {
-                int p = person(), v = near(0, 9);
-                due("rank(" + p + ", " + v + ")", hand.rank(p, v), model.rank(p, v));
-            }
-            case 4, 5, 6 -> {
-                int p = person(), q = person();
-                boolean is = random.nextInt(4) > 0;
-                due("know(" + p + ", " + q + ", " + is + ")", hand.know(p, q, is), model.know(p, q, is));
-            }
-            case 7, 8, 9 -> {
-                int kind = near(0, 5), a = random.nextBoolean() ? near(1, 99) : near(1, 6), p = person();
-                due("coin(" + kind + ", " + a + ", " + p + ")", hand.coin(kind, a, p), model.coin(kind, a, p));
-            }
-            case 10 -> {
-                int c = coin(), kind = near(0, 5), a = random.nextBoolean() ? near(1, 99) : near(1, 6);
-                due("stamp(" + c + ", " + kind + ", " + a + ")", hand.stamp(c, kind, a), model.stamp(c, kind, a));
-            }
-            default -> {
-                int c = coin();
-                due("clean(" + c + ")", hand.clean(c), model.clean(c));
-            }
-        }
-    }
-
-    private void gift() {
-        int c = coin(), p = person();
-        switch (random.nextInt(8)) {
-            case 0, 1 -> due("may(" + c + ", " + p + ")", hand.may(c, p), model.may(c, p));
-            case 2, 3, 4 -> due("give(" + c + ", " + p + ")", hand.give(c, p), model.give(c, p));
-            case 5 -> due("lot(" + c + ")", hand.lot(c), model.lot(c));
-            case 6 -> {
-                int n = random.nextBoolean() ? near(0, 3) : near(0, 20);
-                due("lots(" + n + ")", hand.lots(n), model.lots(n));
-            }
-            default -> due("melt(" + c + ")", hand.melt(c), model.melt(c));
-        }
-    }
-
-    private void ask() {
-        int c = coin(), p = person();
-        switch (random.nextInt(16)) {
-            case 0 -> {
-                int what = near(0, 4);
-                due("personOf(" + p + ", " + what + ")", hand.personOf(p, what), model.personOf(p, what));
-            }
-            case 1 -> {
-                int what = near(0, 5);
-                due("coinOf(" + c + ", " + what + ")", hand.coinOf(c, what), model.coinOf(c, what));
-            }
-            case 2 -> due("left(" + c + ")", hand.left(c), model.left(c));
-            case 3, 4 -> {
-                int i = near(0, 6);
-                due("row(" + c + ", " + i + ")", hand.row(c, i), model.row(c, i));
-            }
-            case 5 -> due("through(" + c + ")", hand.through(c), model.through(c));
-            case 6 -> due("ways(" + c + ")", hand.ways(c), model.ways(c));
-            case 7 -> due("last(" + c + ")", hand.last(c), model.last(c));
-            case 8 -> due("stuck()", hand.stuck(), model.stuck());
-            case 9 -> {
-                int what = near(0, 2);
-                due("best(" + p + ", " + what + ")", hand.best(p, what), model.best(p, what));
-            }
-            case 10, 11 -> {
-                int to = person(), sum = random.nextInt(20) == 0 ? near(0, 999) : near(0, 60);
-                due("paid(" + p + ", " + to + ", " + sum + ")", hand.paid(p, to, sum), model.paid(p, to, sum));
-            }
-            case 12 -> due("friend(" + c + ")", hand.friend(c), model.friend(c));
-            case 13 -> {
-                int what = near(0, 1);
-                due("heir(" + p + ", " + what + ")", hand.heir(p, what), model.heir(p, what));
-            }
-            case 14 -> due("least()", hand.least(), model.least());
-            default -> askAll();
-        }
-    }
-
-    private void askAll() {
-        if (random.nextInt(4) == 0) {
-            int v = random.nextInt();
-            due("seed(" + v + ")", hand.seed(v), model.seed(v));
-            return;
-        }
-        int what = near(0, 3);
-        due("all(" + what + ")", hand.all(what), model.all(what));
-    }
-
-    private void row() {
-        int c = coin(), i = near(0, 5), what = near(0, 2);
-        switch (random.nextInt(6)) {
-            case 0 -> due("prove(" + c + ")", hand.prove(c), model.prove(c));
-            case 1, 2 -> due("rowOf(" + i + ", " + what + ")", hand.rowOf(i, what), model.rowOf(i, what));
-            case 3 -> {
-                int v = random.nextInt(8) == 0 ? number() : near(0, 6);
-                due("alterRow(" + i + ", " + what + ", " + v + ")", hand.alterRow(i, what, v), model.alterRow(i, what, v));
-            }
-            case 4 -> {
-                due("prove(" + c + ")", hand.prove(c), model.prove(c));
-                int other = coin();
-                due("judge(" + other + ")", hand.judge(other), model.judge(other));
-            }
-            default -> due("judge(" + c + ")", hand.judge(c), model.judge(c));
-        }
-    }
-
-    private void host() {
-        int s = near(0, 3), i = random.nextInt(4) == 0 ? near(0, 40) : near(0, 6);
-        switch (random.nextInt(12)) {
-            case 0, 1 -> {
-                int sort = random.nextBoolean() ? 2 : near(-1, 3), n = random.nextInt(4) == 0 ? near(0, 40) : near(0, 8);
-                due("sheet(" + s + ", " + sort + ", " + n + ")", hand.sheet(s, sort, n), model.sheet(s, sort, n));
-            }
-            case 2, 3 -> {
-                int v = number();
-                due("put(" + s + ", " + i + ", " + v + ")", hand.put(s, i, v), model.put(s, i, v));
-            }
-            case 4 -> {
-                int sort = random.nextBoolean() ? 2 : near(0, 3);
-                due("item(" + s + ", " + sort + ", " + i + ")", hand.item(s, sort, i), model.item(s, sort, i));
-            }
-            case 5 -> {
-                int p = person(), n = near(0, 4);
-                due("ranks(" + s + ", " + i + ", " + p + ", " + n + ")", hand.ranks(s, i, p, n), model.ranks(s, i, p, n));
-            }
-            case 6, 7 -> {
-                int what = random.nextBoolean() ? 0 : near(0, 2), n = what == 0 ? coin() : near(0, 3);
-                due("shelf(" + s + ", " + what + ", " + n + ")", hand.shelf(s, what, n), model.shelf(s, what, n));
-            }
-            case 8 -> {
-                int as = random.nextBoolean() ? near(0, 5) : near(10, 13);
-                due("taken(" + s + ", " + as + ")", hand.taken(s, as), model.taken(s, as));
-            }
-            case 9, 10 -> {
-                int act = near(0, 3), x = number();
-                due("act(" + s + ", " + act + ", " + x + ")", hand.act(s, act, x), model.act(s, act, x));
-            }
-            default -> {
-                int what = near(0, 4), t = near(0, 11);
-                due("many(" + what + ")", hand.many(what), model.many(what));
-                due("trace(" + t + ")", hand.trace(t), model.trace(t));
-            }
-        }
-    }
-
-    private void kept() {
-        if (random.nextBoolean()) {
-            due("keep()", hand.keep(), model.keep());
-        } else {
-            due("again()", hand.again(), model.again());
-        }
-    }
-
-    private void tell(String text, boolean break_) {
-        String told = break_ && random.nextInt(3) > 0 ? broken(text) : text;
-        for (int i = 0; i < told.length(); i += 8) {
-            int n = Math.min(8, told.length() - i);
+    private void feed(String text) throws ReflectiveOperationException {
+        for (int i = 0; i < text.length(); i += 8) {
+            int n = Math.min(8, text.length() - i);
             long eight = random.nextLong();
             for (int k = 0; k < n; k++) {
-                eight = eight & ~(255L << 8 * k) | (told.charAt(i + k) & 255L) << 8 * k;
+                eight = eight & ~(255L << 8 * k) | (text.charAt(i + k) & 255L) << 8 * k;
             }
-            due("feed(" + eight + ", " + n + ")", hand.feed(eight, n), model.feed(eight, n));
+            make("feed", new Class<?>[] {long.class, int.class}, eight, n);
         }
-        if (random.nextInt(10) == 0) {
-            long eight = random.nextLong();
-            int n = near(1, 8);
-            due("feed(" + eight + ", " + n + ")", hand.feed(eight, n), model.feed(eight, n));
-        }
-        due("town() of '" + told + "'", hand.town(), model.town());
     }
 
     private String text(int people, int coins) {
@@ -304,11 +257,11 @@ public final class ModelTest {
         return random.nextInt(6) == 0 ? " " : "";
     }
 
-    /** One or two bytes or words are other ones, missing or more, or the end is cut off. */
-    private String broken(String text) {
+    /** Mostly one or two bytes or words are other ones, missing or more, or the end is cut off. */
+    private String maybeBroken(String text) {
         StringBuilder broken = new StringBuilder(text);
         String[] words = {"person", "know", "coin", "of", "had", ",", ";", " ", "7", "0", "00", "100", "x", "A", "\t", "\u00e9", "\0"};
-        for (int times = 1 + random.nextInt(2); times > 0; times--) {
+        for (int times = random.nextInt(3); times > 0; times--) {
             int at = random.nextInt(broken.length() + 1);
             String word = words[random.nextInt(words.length)];
             switch (random.nextInt(4)) {
